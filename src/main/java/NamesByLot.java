@@ -332,7 +332,7 @@ public final class NamesByLot {
         for (int added = 0; added <= most; added++) {
             int doubled = what == 1 ? added : 0;
             lots.lay(list.singles() - doubled, list.bad + added - doubled, list.pairs + doubled);
-            if (2 * waysToYes(k) < lots.choose(lots.all, k)) {
+            if (2 * waysToYes(k) < lots.choose(lots.all(), k)) {
                 return added;
             }
         }
@@ -535,11 +535,10 @@ public final class NamesByLot {
 
     private long waysToYes(int k) {
         long sum = 0;
-        for (int v = Math.max(0, k - lots.bad); v <= k; v++) {
-            for (int d = 0; d <= lots.pairs && 2 * d <= v; d++) {
-                long ways = lots.ways(k, v, d);
-                if (ways > 0 && reckoner.reachesNeed(now, lots.all, k, v, d)) {
-                    sum += ways;
+        for (int v = Math.max(0, k - lots.bad); v <= Math.min(k, lots.valid()); v++) {
+            for (int d = lots.leastDoubles(v); d <= lots.pairs && 2 * d <= v; d++) {
+                if (reckoner.reachesNeed(now, lots.all(), k, v, d)) {
+                    sum += lots.ways(k, v, d);
                 }
             }
         }
@@ -809,7 +808,7 @@ public final class NamesByLot {
         private final long[] pascal;
         // At d * ROW + r: r valid names, none of them doubled, when d of the pairs are taken whole.
         private final long[] undoubled;
-        private int all;
+        private int singles;
         private int bad;
         private int pairs;
 
@@ -817,11 +816,11 @@ public final class NamesByLot {
             pascal = new long[ROW * (ROW + 1) / 2];
             undoubled = new long[(PAIRS_ROOM + 1) * ROW];
             for (int n = 0; n < ROW; n++) {
-                int start = n * (n + 1) / 2;
-                pascal[start] = 1;
-                for (int k = 1; k <= n; k++) {
-                    long beside = k < n ? pascal[start - n + k] : 0;
-                    pascal[start + k] = pascal[start - n + k - 1] + beside;
+                for (int k = 0; k <= n; k++) {
+                    int place = n * (n + 1) / 2 + k;
+                    if (place < pascal.length) {
+                        pascal[place] = k == 0 ? 1 : choose(n - 1, k - 1) + choose(n - 1, k);
+                    }
                 }
             }
         }
@@ -834,28 +833,46 @@ public final class NamesByLot {
             return place < pascal.length ? pascal[place] : 0;
         }
 
-        void lay(int singles, int badOnes, int pairsThere) {
-            all = singles + badOnes + 2 * pairsThere;
+        void lay(int singleOnes, int badOnes, int pairsThere) {
+            singles = singleOnes;
             bad = badOnes;
             pairs = Math.min(pairsThere, PAIRS_ROOM);
-            for (int r = 0; r < ROW; r++) {
+            for (int r = 0; r <= singles; r++) {
                 write(pairs, r, choose(singles, r));
             }
             // One pair more that is not taken whole: none of it, or one of its two names.
             for (int d = pairs - 1; d >= 0; d--) {
-                for (int r = 0; r < ROW; r++) {
+                for (int r = 0; r <= people(d); r++) {
                     write(d, r, read(d + 1, r) + 2 * read(d + 1, r - 1));
                 }
             }
+        }
+
+        int valid() {
+            return singles + 2 * pairs;
+        }
+
+        int all() {
+            return valid() + bad;
+        }
+
+        /** With more valid names than people, some are doubled. */
+        int leastDoubles(int v) {
+            return Math.max(0, v - people(0));
         }
 
         long ways(int k, int v, int d) {
             return choose(pairs, d) * read(d, v - 2 * d) * choose(bad, k - v);
         }
 
+        /** Those who can be there with one name, when d of the pairs are taken whole. */
+        private int people(int d) {
+            return singles + pairs - d;
+        }
+
         private long read(int d, int r) {
             int place = d * ROW + r;
-            return r >= 0 && r < ROW && place >= 0 && place < undoubled.length ? undoubled[place] : 0;
+            return r >= 0 && r <= people(d) && place >= 0 && place < undoubled.length ? undoubled[place] : 0;
         }
 
         private void write(int d, int r, long value) {
