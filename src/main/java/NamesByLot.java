@@ -9,7 +9,7 @@ public final class NamesByLot {
     private static final int PAD_ROOM = 16, SHEET_ROOM = 10, RULE_ROOM = 11;
     private static final int LIST_ROOM = SHEETS * SHEET_ROOM, PAIRS_ROOM = LIST_ROOM / 2;
     private static final int NUMBER_MOST = 60, FIRST_NEED = 30, ADDED_MOST = 30;
-    private static final int DOUBT_MOST = 1000, CENTS_MOST = 999, TENTHS = 10, FINE_MOST = 9999;
+    private static final int DOUBT_MOST = 1000, CENTS_MOST = 999, TENTHS = 10;
     private static final int SEED_MOST = 9999, SEED_TIMES = 75, SEED_PLUS = 74, SEED_RING = 65537;
     private static final int TOLD_GATHERERS = 10, TOLD_NAMES = 20;
     // Euclid's way needs fewer than 100 steps for any two longs.
@@ -269,9 +269,9 @@ public final class NamesByLot {
         if (tenths == 0) {
             return saved == 0 ? 0 : NONE;
         }
+        // At its dearest this is 9990, so the 9999 that a fine may be are never passed.
         int leastWithPay = (saved * TENTHS + tenths - 1) / tenths;
-        int least = Math.max(0, leastWithPay - pay);
-        return least <= FINE_MOST ? least : NONE;
+        return Math.max(0, leastWithPay - pay);
     }
 
     public long word(int right, int fooled, int part) {

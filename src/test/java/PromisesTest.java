@@ -476,6 +476,11 @@ public final class PromisesTest {
         need(rule(x, "0"), 2);
         due("enough(999)", x.enough(999), NONE);
         due("enough(1000)", x.enough(1000), 1);
+        // All must be looked at: v is 3 for certain only then.
+        NamesByLot last = need(rule(with("...s"), "v"), 3);
+        due("enough(0)", last.enough(0), 4);
+        due("enough(749)", last.enough(749), 4);
+        due("enough(750)", last.enough(750), 3);
         NamesByLot over = with("AAA");
         due("enough(5)", over.enough(5), STATE);
         due("enough(1001)", over.enough(1001), OUTSIDE);
@@ -558,6 +563,15 @@ public final class PromisesTest {
         due("seems(0, -1)", x.seems(0, -1), LOST + OUTSIDE);
     }
 
+    /** Sheet by sheet a gatherer of his own. */
+    private static void suspect(int want, String... sheets) {
+        NamesByLot x = with(sheets);
+        for (int i = 0; i < sheets.length; i++) {
+            x.set(i, 0, i);
+        }
+        due("suspect()", x.suspect(), want);
+    }
+
     private static void promise19() {
         promise = 19;
         NamesByLot x = with("..", "sm.");
@@ -576,6 +590,11 @@ public final class PromisesTest {
         due("suspect()", same.suspect(), 2);
         same.set(1, 1, 1);
         due("suspect()", same.suspect(), 3);
+        // 3 by 8 is less than 1 by 2, 3 by 4 less than 11 by 14.
+        suspect(0, "s", "sm..", "...");
+        suspect(1, "sm..", "s", "...");
+        suspect(0, "s", "smu.", "mu.");
+        suspect(1, "smu.", "s", "mu.");
         due("suspect()", new NamesByLot().suspect(), NONE);
         NamesByLot struck = with("s");
         struck.set(0, 1, 1);
@@ -596,6 +615,13 @@ public final class PromisesTest {
         shared(x, 1, 9, 55);
         x.set(2, 1, 1);
         shared(x, 1, 3, 5);
+        say(x, "A").names(3);
+        x.set(3, 0, 4);
+        // 2 of 6 bad, both in a lot of 3: 4 of 20 ways; one name makes a gatherer, too.
+        shared(x, 1, 3, 5);
+        x.set(0, 1, 1);
+        // 2 of 4: 2 of 4 ways, two gatherers.
+        shared(x, 1, 1, 1);
         shared(x, 5, LOST + UNKNOWN, LOST + UNKNOWN);
         shared(x, -1, LOST + UNKNOWN, LOST + UNKNOWN);
         due("shared(5, 2)", x.shared(5, 2), LOST + UNKNOWN);
@@ -724,6 +750,15 @@ public final class PromisesTest {
         due("against(0, 1)", thirty.against(0, 1), 30);
         say(thirty, "..........").names(2);
         due("against(0, 1)", thirty.against(0, 1), NONE);
+        // 31 - N is below 0 from 32 on, 30 - N from 31 on.
+        due("against(0, 1)", need(rule(with("."), "-+*561N"), 0).against(0, 1), NONE);
+        due("against(0, 1)", need(rule(with("."), "-*56N"), 0).against(0, 1), 30);
+        // The most that can be doubled, however many ways there are.
+        NamesByLot dots = need(rule(with("..........", "..........", ".........."), "0"), 0);
+        due("against(1, 30)", dots.against(1, 30), NONE);
+        due("against(0, 30)", dots.against(0, 30), NONE);
+        due("against(1, 30)", need(rule(dots, "-*69N"), 0).against(1, 30), 25);
+        due("against(1, 30)", need(rule(dots, "-+*695N"), 0).against(1, 30), 30);
         // N is all with those that came.
         NamesByLot grown = need(rule(with("."), "-9N"), 5);
         due("against(0, 1)", grown.against(0, 1), 4);
@@ -795,14 +830,17 @@ public final class PromisesTest {
 
     private static void promise28() {
         promise = 28;
-        NamesByLot x = need(rule(with(".A", "sm"), "+vd"), 3);
+        NamesByLot x = need(rule(with(".A", "sm", "", "", "", "ABCDEFGHIJ"), "+vd"), 3);
         x.set(1, 0, 4);
+        x.set(5, 0, 3);
         x.set(0, 1, 1);
         say(x, "xyz");
         x.image(1);
         x.wipe();
         say(x, "uuu").names(0);
         x.names(1);
+        say(x, "QRSTUVWXYZ").names(5);
+        x.set(5, 0, 0);
         rule(x, "d");
         need(x, 9);
         x.set(1, 0, 2);
@@ -824,6 +862,9 @@ public final class PromisesTest {
         due("sheet(0, 0)", x.sheet(0, 0), '.');
         due("sheet(0, 1)", x.sheet(0, 1), 'A');
         due("sheet(1, 0)", x.sheet(1, 0), 's');
+        due("sheet(5, 0)", x.sheet(5, 0), 'A');
+        due("sheet(5, 9)", x.sheet(5, 9), 'J');
+        due("told(15)", x.told(15), 3);
         comes(x, 0, 0, 4, 5, 9, 1);
         // What is changed after it leaves the image as it was.
         x.wipe();
