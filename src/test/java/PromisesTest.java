@@ -1,10 +1,5 @@
 /** Every promise by numbers that were worked out by hand: ordinary inputs, edges, wrong inputs. */
-public final class PromisesTest {
-    private static final int NONE = -6, UNKNOWN = -1, OUTSIDE = -2, STATE = -3, FULL = -4, NO = -5;
-    private static final long LOST = -1000000000000000000L;
-    private static int promise;
-    private static int bad;
-
+public final class PromisesTest extends Dues {
     public static void main(String[] args) {
         promise1();
         promise2();
@@ -35,87 +30,11 @@ public final class PromisesTest {
         promise27();
         promise28();
         promise29();
-        System.out.println(bad == 0 ? "all promises hold" : bad + " answers are not as due");
-        if (bad != 0) {
-            System.exit(1);
-        }
-    }
-
-    private static void due(String call, long got, long want) {
-        if (got != want) {
-            bad++;
-            System.out.println("promise " + promise + ": " + call + " answered " + got + ", due is " + want);
-        }
-    }
-
-    private static NamesByLot say(NamesByLot x, String text) {
-        for (int i = 0; i < text.length(); i++) {
-            x.say(text.charAt(i));
-        }
-        return x;
-    }
-
-    /** A new object with these texts as sheets 0, 1, ... */
-    private static NamesByLot with(String... sheets) {
-        NamesByLot x = new NamesByLot();
-        for (int i = 0; i < sheets.length; i++) {
-            due("names(" + i + ") of " + sheets[i], say(x, sheets[i]).names(i), sheets[i].length());
-        }
-        return x;
-    }
-
-    private static NamesByLot rule(NamesByLot x, String text) {
-        due("rule() of " + text, say(x, text).rule(), text.length());
-        return x;
-    }
-
-    private static NamesByLot need(NamesByLot x, int v) {
-        x.need(v);
-        return x;
-    }
-
-    private static void yes(NamesByLot x, int k, long upper, long lower) {
-        due("yes(" + k + ", 0)", x.yes(k, 0), upper);
-        due("yes(" + k + ", 1)", x.yes(k, 1), lower);
-    }
-
-    private static void wrong(NamesByLot x, int k, long upper, long lower) {
-        due("wrong(" + k + ", 0)", x.wrong(k, 0), upper);
-        due("wrong(" + k + ", 1)", x.wrong(k, 1), lower);
-    }
-
-    private static void bySheets(NamesByLot x, int t, long upper, long lower) {
-        due("bySheets(" + t + ", 0)", x.bySheets(t, 0), upper);
-        due("bySheets(" + t + ", 1)", x.bySheets(t, 1), lower);
-    }
-
-    private static void comes(NamesByLot x, int all, int k, int v, int d, long upper, long lower) {
-        due("comes(.., 0)", x.comes(all, k, v, d, 0), upper);
-        due("comes(.., 1)", x.comes(all, k, v, d, 1), lower);
-    }
-
-    private static void worth(NamesByLot x, int k, int v, int d, long upper, long lower) {
-        due("worth(" + k + ", " + v + ", " + d + ", 0)", x.worth(k, v, d, 0), upper);
-        due("worth(" + k + ", " + v + ", " + d + ", 1)", x.worth(k, v, d, 1), lower);
-    }
-
-    private static void seems(NamesByLot x, int g, long upper, long lower) {
-        due("seems(" + g + ", 0)", x.seems(g, 0), upper);
-        due("seems(" + g + ", 1)", x.seems(g, 1), lower);
-    }
-
-    private static void shared(NamesByLot x, int g, long upper, long lower) {
-        due("shared(" + g + ", 0)", x.shared(g, 0), upper);
-        due("shared(" + g + ", 1)", x.shared(g, 1), lower);
-    }
-
-    private static void word(NamesByLot x, int right, int fooled, long upper, long lower) {
-        due("word(" + right + ", " + fooled + ", 0)", x.word(right, fooled, 0), upper);
-        due("word(" + right + ", " + fooled + ", 1)", x.word(right, fooled, 1), lower);
+        end("all promises hold");
     }
 
     private static void promise1() {
-        promise = 1;
+        about("promise 1");
         NamesByLot x = new NamesByLot();
         due("told(0)", x.told(0), 0);
         due("told(1)", x.told(1), 30);
@@ -139,7 +58,7 @@ public final class PromisesTest {
     }
 
     private static void promise2() {
-        promise = 2;
+        about("promise 2");
         NamesByLot x = new NamesByLot();
         due("say(32)", x.say(32), OUTSIDE);
         due("say(127)", x.say(127), OUTSIDE);
@@ -156,7 +75,7 @@ public final class PromisesTest {
     }
 
     private static void promise3() {
-        promise = 3;
+        about("promise 3");
         NamesByLot x = new NamesByLot();
         due("wipe()", x.wipe(), 0);
         due("wipe()", say(x, "abc").wipe(), 3);
@@ -174,7 +93,7 @@ public final class PromisesTest {
     }
 
     private static void promise4() {
-        promise = 4;
+        about("promise 4");
         fault("", NONE, 0);
         fault(".smuAZ", NONE, 0);
         fault("AAA", NONE, 0);
@@ -213,7 +132,7 @@ public final class PromisesTest {
     }
 
     private static void promise5() {
-        promise = 5;
+        about("promise 5");
         NamesByLot x = new NamesByLot();
         due("names(5)", say(x, ".sA").names(5), 3);
         due("told(0)", x.told(0), 0);
@@ -244,7 +163,7 @@ public final class PromisesTest {
     }
 
     private static void promise6() {
-        promise = 6;
+        about("promise 6");
         NamesByLot x = new NamesByLot();
         due("set(0, 0, 4)", x.set(0, 0, 4), 0);
         due("set(0, 0, 2)", x.set(0, 0, 2), 4);
@@ -267,7 +186,7 @@ public final class PromisesTest {
     }
 
     private static void promise7() {
-        promise = 7;
+        about("promise 7");
         NamesByLot x = with("", "sZ.");
         x.set(1, 1, 1);
         due("sheet(1, -1)", x.sheet(1, -1), 3);
@@ -284,7 +203,7 @@ public final class PromisesTest {
     }
 
     private static void promise8() {
-        promise = 8;
+        about("promise 8");
         NamesByLot x = with(".AsB", "uAm.", "C");
         due("count(0)", x.count(0), 9);
         due("count(1)", x.count(1), 3);
@@ -310,7 +229,7 @@ public final class PromisesTest {
     }
 
     private static void promise9() {
-        promise = 9;
+        about("promise 9");
         NamesByLot x = new NamesByLot();
         due("need(0)", x.need(0), 30);
         due("need(60)", x.need(60), 0);
@@ -321,7 +240,7 @@ public final class PromisesTest {
     }
 
     private static void promise10() {
-        promise = 10;
+        about("promise 10");
         NamesByLot x = new NamesByLot();
         due("rule()", x.rule(), NO);
         say(x, "+N");
@@ -343,7 +262,7 @@ public final class PromisesTest {
     }
 
     private static void promise11() {
-        promise = 11;
+        about("promise 11");
         NamesByLot x = new NamesByLot();
         comes(rule(x, "N"), 60, 1, 2, 3, 60, 1);
         comes(rule(x, "k"), 60, 1, 2, 3, 1, 1);
@@ -377,7 +296,7 @@ public final class PromisesTest {
     }
 
     private static void promise12() {
-        promise = 12;
+        about("promise 12");
         // 5 names, 3 valid; v of a lot of 2 is 2 in 3 of 10 ways.
         NamesByLot x = need(rule(with(".A", "sBm"), "v"), 2);
         yes(x, 1, 0, 1);
@@ -416,7 +335,7 @@ public final class PromisesTest {
     }
 
     private static void promise13() {
-        promise = 13;
+        about("promise 13");
         NamesByLot x = need(rule(with("A.", "As", "", "mu", "."), "v"), 3);
         // Of the four sheets 0, 1, 3, 4 two: valid 3 by 0 and 1, 0 and 4.
         bySheets(x, 1, 0, 1);
@@ -444,7 +363,7 @@ public final class PromisesTest {
     }
 
     private static void promise14() {
-        promise = 14;
+        about("promise 14");
         NamesByLot x = need(rule(with(".A", "sBm"), "v"), 2);
         wrong(x, 1, 1, 1);
         wrong(x, 2, 7, 10);
@@ -462,7 +381,7 @@ public final class PromisesTest {
     }
 
     private static void promise15() {
-        promise = 15;
+        about("promise 15");
         NamesByLot x = need(rule(with(".A", "sBm"), "v"), 2);
         due("enough(1000)", x.enough(1000), 1);
         due("enough(999)", x.enough(999), 2);
@@ -489,7 +408,7 @@ public final class PromisesTest {
     }
 
     private static void promise16() {
-        promise = 16;
+        about("promise 16");
         NamesByLot x = with("......", "....");
         // N by k is what a double one costs at first.
         worth(x, 4, 3, 0, 5, 2);
@@ -517,7 +436,7 @@ public final class PromisesTest {
     }
 
     private static void promise17() {
-        promise = 17;
+        about("promise 17");
         NamesByLot x = with(".s", "mu", "A");
         x.set(1, 0, 4);
         x.set(2, 0, 4);
@@ -537,7 +456,7 @@ public final class PromisesTest {
     }
 
     private static void promise18() {
-        promise = 18;
+        about("promise 18");
         // 5 names, 2 bad, both on the sheet of gatherer 1 who has 3: 3 of 10 ways.
         NamesByLot x = with("..", "sm.");
         x.set(1, 0, 1);
@@ -573,7 +492,7 @@ public final class PromisesTest {
     }
 
     private static void promise19() {
-        promise = 19;
+        about("promise 19");
         NamesByLot x = with("..", "sm.");
         x.set(1, 0, 1);
         due("suspect()", x.suspect(), 1);
@@ -603,7 +522,7 @@ public final class PromisesTest {
     }
 
     private static void promise20() {
-        promise = 20;
+        about("promise 20");
         NamesByLot x = with("..", "sm.");
         x.set(1, 0, 1);
         shared(x, 1, 3, 5);
@@ -631,7 +550,7 @@ public final class PromisesTest {
     }
 
     private static void promise21() {
-        promise = 21;
+        about("promise 21");
         NamesByLot x = new NamesByLot();
         due("fine(0, 10, 7)", x.fine(0, 10, 7), 7);
         due("fine(7, 10, 7)", x.fine(7, 10, 7), 0);
@@ -651,7 +570,7 @@ public final class PromisesTest {
     }
 
     private static void promise22() {
-        promise = 22;
+        about("promise 22");
         NamesByLot x = with(".AAs", "Am");
         word(x, 10, 10, 2, 3);
         word(x, 10, 0, 1, 1);
@@ -673,7 +592,7 @@ public final class PromisesTest {
     }
 
     private static void promise23() {
-        promise = 23;
+        about("promise 23");
         NamesByLot x = with("AB.", "Ass", "CC", "");
         due("strike(0)", x.strike(0), 2);
         due("strike(1)", x.strike(1), 0);
@@ -691,7 +610,7 @@ public final class PromisesTest {
     }
 
     private static void promise24() {
-        promise = 24;
+        about("promise 24");
         due("worst()", new NamesByLot().worst(), 0);
         NamesByLot x = with("A", "B.", "C.", "A");
         due("worst()", x.worst(), 1);
@@ -711,7 +630,7 @@ public final class PromisesTest {
     }
 
     private static void promise25() {
-        promise = 25;
+        about("promise 25");
         // A lot of 1 is valid with odds 2 by 2 + x: a half at 2, less at 3.
         NamesByLot x = need(rule(with("..", ""), "v"), 1);
         due("against(0, 1)", x.against(0, 1), 3);
@@ -775,7 +694,7 @@ public final class PromisesTest {
     }
 
     private static void promise26() {
-        promise = 26;
+        about("promise 26");
         // Seed 0 becomes 74, then 5624, then 5624 * 75 + 74 = 421874 = 6 * 65537 + 28652.
         NamesByLot x = need(rule(with("sA.", "Am"), "v"), 1);
         // 74 by 5 leaves 4: m; 5624 by 4 leaves 0: s; 28652 by 3 leaves 2: the second A.
@@ -805,7 +724,7 @@ public final class PromisesTest {
     }
 
     private static void promise27() {
-        promise = 27;
+        about("promise 27");
         NamesByLot x = new NamesByLot();
         due("image(2)", x.image(2), OUTSIDE);
         due("image(-1)", x.image(-1), OUTSIDE);
@@ -829,7 +748,7 @@ public final class PromisesTest {
     }
 
     private static void promise28() {
-        promise = 28;
+        about("promise 28");
         NamesByLot x = need(rule(with(".A", "sm", "", "", "", "ABCDEFGHIJ"), "+vd"), 3);
         x.set(1, 0, 4);
         x.set(5, 0, 3);
@@ -877,7 +796,7 @@ public final class PromisesTest {
     }
 
     private static void promise29() {
-        promise = 29;
+        about("promise 29");
         NamesByLot x = need(rule(with("", "..", "sss", "", "", "....."), "*2v"), 12);
         x.set(2, 0, 3);
         x.set(5, 0, 1);
