@@ -136,39 +136,6 @@ public final class FaceTest {
         }
     }
 
-    private static long ask(NamesByLot x, int kind, int[] a) {
-        switch (kind) {
-            case 0: return x.say(a[0]);
-            case 1: return x.wipe();
-            case 2: return x.fault(a[0]);
-            case 3: return x.names(a[0]);
-            case 4: return x.set(a[0], a[1], a[2]);
-            case 5: return x.sheet(a[0], a[1]);
-            case 6: return x.count(a[0]);
-            case 7: return x.need(a[0]);
-            case 8: return x.rule();
-            case 9: return x.comes(a[0], a[1], a[2], a[3], a[4]);
-            case 10: return x.yes(a[0], a[1]);
-            case 11: return x.bySheets(a[0], a[1]);
-            case 12: return x.wrong(a[0], a[1]);
-            case 13: return x.enough(a[0]);
-            case 14: return x.worth(a[0], a[1], a[2], a[3]);
-            case 15: return x.gatherer(a[0], a[1]);
-            case 16: return x.seems(a[0], a[1]);
-            case 17: return x.suspect();
-            case 18: return x.shared(a[0], a[1]);
-            case 19: return x.fine(a[0], a[1], a[2]);
-            case 20: return x.word(a[0], a[1], a[2]);
-            case 21: return x.strike(a[0]);
-            case 22: return x.worst();
-            case 23: return x.against(a[0], a[1]);
-            case 24: return x.heap(a[0], a[1], a[2]);
-            case 25: return x.image(a[0]);
-            case 26: return x.restore(a[0]);
-            default: return x.told(a[0]);
-        }
-    }
-
     private static void checkWildArguments() {
         Random random = new Random(7);
         String signs = "....ssmuABCDEFGHNkvd012/*-+";
@@ -186,7 +153,7 @@ public final class FaceTest {
                     a[0] = signs.charAt(random.nextInt(signs.length()));
                 }
                 try {
-                    ask(x, kind, a);
+                    Calls.ask(x, kind, a);
                 } catch (Throwable thrown) {
                     expect(false, "nothing is thrown by call " + kind + " with " + java.util.Arrays.toString(a) + ", but " + thrown);
                     return;
@@ -206,11 +173,11 @@ public final class FaceTest {
             x.names(i);
         }
         int[] ones = {1, 1, 1, 1, 1};
-        ask(x, 9, ones);
+        Calls.ask(x, 9, ones);
         long before = allocated();
         for (int round = 0; round < 30; round++) {
             for (int kind = 9; kind < 25; kind++) {
-                ask(x, kind, ones);
+                Calls.ask(x, kind, ones);
             }
         }
         long made = allocated() - before;
