@@ -634,6 +634,12 @@ public final class EdgesTest extends Dues {
         due("gatherer(4, 1)", x.gatherer(4, 1), 0);
         seems(x, 4, 1, 1);
         due("suspect()", x.suspect(), 1);
+        about("BAD NAMES on his SHEETS, of so many");
+        NamesByLot some = give(with(".s", "AAA.mu", "...."), 2, 2, 3);
+        due("gatherer(2, 0)", some.gatherer(2, 0), 8);
+        due("gatherer(2, 1)", some.gatherer(2, 1), 3);
+        due("gatherer(3, 0)", some.gatherer(3, 0), 4);
+        due("gatherer(3, 1)", some.gatherer(3, 1), 0);
         about("all SHEETS are his");
         NamesByLot all = give(with(TEN_BAD, TEN_BAD, TEN_BAD, TEN_BAD, TEN_BAD, TEN_BAD), 4, 4, 4, 4, 4, 4);
         due("gatherer(4, 0)", all.gatherer(4, 0), 60);
