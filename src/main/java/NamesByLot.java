@@ -671,12 +671,16 @@ public final class NamesByLot {
         }
 
         void become(Register from) {
-            System.arraycopy(from.signs, 0, signs, 0, SHEETS * SHEET_ROOM);
-            System.arraycopy(from.sizes, 0, sizes, 0, SHEETS);
-            System.arraycopy(from.gatherers, 0, gatherers, 0, SHEETS);
+            copy(from.signs, signs);
+            copy(from.sizes, sizes);
+            copy(from.gatherers, gatherers);
             formula.become(from.formula);
             struck = from.struck;
             needed = from.needed;
+        }
+
+        private static void copy(int[] from, int[] into) {
+            System.arraycopy(from, 0, into, 0, Math.min(from.length, into.length));
         }
 
         int sizeOf(int sheet) {

@@ -107,19 +107,20 @@ public final class FaceTest {
         for (String pattern : ruledOut) {
             expect(!Pattern.compile(pattern).matcher(bare).find(), "nothing in the class matches " + pattern);
         }
+        String copied = "arraycopy\\((\\w+), 0, (\\w+), 0, Math\\.min\\(\\1\\.length, \\2\\.length\\)\\);";
+        expect(times("\\barraycopy\\b", bare) == times(copied, bare), "a copy looks at the lengths of both arrays");
         // Rows are made in constructors alone: an indented "new" stands only in an assignment to a field there.
-        Matcher made = Pattern.compile("\\bnew\\b").matcher(bare);
+        expect(times("\\bnew\\b", bare) == times("(?m)^\\s+\\w+ = new \\w+[(\\[].*;$", bare), "every new fills a field");
+        checkMethodLengths(bare);
+    }
+
+    private static int times(String pattern, String text) {
+        Matcher found = Pattern.compile(pattern).matcher(text);
         int n = 0;
-        while (made.find()) {
+        while (found.find()) {
             n++;
         }
-        Matcher inConstructors = Pattern.compile("(?m)^\\s+\\w+ = new \\w+[(\\[].*;$").matcher(bare);
-        int fields = 0;
-        while (inConstructors.find()) {
-            fields++;
-        }
-        expect(n == fields, "every new fills a field");
-        checkMethodLengths(bare);
+        return n;
     }
 
     private static void checkMethodLengths(String bare) {
